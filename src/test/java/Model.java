@@ -617,6 +617,17 @@ final class Model {
         return cost;
     }
 
+    List<Integer> dams(int level, int place) {
+        boolean[] dams = cheapest(level, place);
+        List<Integer> found = new ArrayList<>();
+        for (int c = 0; c < dams.length; c++) {
+            if (dams[c]) {
+                found.add(c);
+            }
+        }
+        return found;
+    }
+
     boolean isDam(int level, int place, int cell) {
         range(level, 0, 1000);
         cell(place);

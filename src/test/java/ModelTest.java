@@ -27,6 +27,7 @@ public final class ModelTest {
     public static void main(String[] args) {
         for (int run = 0; run < RUNS; run++) {
             new ModelTest(run).go();
+            new ModelTest(run).wallsOfWideLand();
         }
         System.out.println(wrong == 0 ? "all answers are the model's" : wrong + " answers are wrong");
         System.exit(wrong == 0 ? 0 : 1);
@@ -39,13 +40,75 @@ public final class ModelTest {
             }
             one(random.nextInt(60));
         }
+        sweep();
+    }
+
+    /** All that can be asked of each cell, so that nothing stays changed unseen. */
+    private void sweep() {
+        for (int c = 0; c < model.rows() * model.columns(); c++) {
+            int cell = c;
+            same("height " + cell, () -> survey.height(cell), () -> model.height(cell));
+            same("level " + cell, () -> survey.level(cell), () -> model.level(cell));
+            same("drain " + cell, () -> survey.drain(cell), () -> model.drain(cell));
+            same("rank " + cell, () -> survey.rank(cell), () -> model.rank(cell));
+            same("lakeOf " + cell, () -> survey.lakeOf(cell), () -> model.lakeOf(cell));
+            same("groundOf " + cell, () -> survey.groundOf(cell), () -> model.groundOf(cell));
+            same("water " + cell, () -> survey.water(cell, false), () -> model.water(cell, false));
+            same("water in " + cell, () -> survey.water(cell, true), () -> model.water(cell, true));
+        }
+        for (int what = 0; what < 6; what++) {
+            int at = what;
+            same("total " + at, () -> survey.total(at), () -> model.total(at));
+        }
+    }
+
+    private void newGrounds(int cells) {
+        same("profile", survey::profile, model::profile);
+        for (int i = 0; i < 3; i++) {
+            onSoils(37);
+        }
+        for (int c = 0; c < cells; c++) {
+            int cell = c;
+            int on = random.nextInt(3) - 1;
+            same("ground " + cell + " " + on, () -> survey.ground(cell, on), () -> model.ground(cell, on));
+        }
+    }
+
+    /** Walls where the flow must often be led another way than at first: in wide land, at a level among its heights. */
+    private void wallsOfWideLand() {
+        int r = 6 + random.nextInt(5);
+        int c = 6 + random.nextInt(5);
+        int range = new int[] {2, 4, 10, 50, 500}[random.nextInt(5)];
+        int seed = random.nextInt(1 << 30);
+        same("begin " + r + " " + c, () -> survey.begin(r, c), () -> model.begin(r, c));
+        same("scatter " + seed + " " + range, () -> survey.scatter(seed, range), () -> model.scatter(seed, range));
+        for (int i = 0; i < 4; i++) {
+            int level = range / 2 + random.nextInt(range) + 1;
+            int place = (1 + random.nextInt(r - 2)) * c + 1 + random.nextInt(c - 2);
+            same("wallCost " + level + " " + place, () -> survey.wallCost(level, place),
+                    () -> model.wallCost(level, place));
+            same("dams " + level + " " + place, () -> dams(level, place), () -> model.dams(level, place));
+            same("errors " + level, () -> survey.errors(level), () -> model.errors(level));
+        }
+    }
+
+    private List<Integer> dams(int level, int place) {
+        List<Integer> found = new ArrayList<>();
+        for (int cell = 0; cell < model.rows() * model.columns(); cell++) {
+            if (survey.isDam(level, place, cell)) {
+                found.add(cell);
+            }
+        }
+        return found;
     }
 
     private static Object outcome(Call call) {
         try {
             return call.answer();
         } catch (RuntimeException e) {
-            return e.getClass().getName();
+            // what the machine or its library throws by itself counts as another outcome
+            String thrower = e.getStackTrace()[0].getClassName();
+            return thrower.equals("ClaySurvey") || thrower.equals("Model") ? e.getClass().getName() : e.toString();
         }
     }
 
@@ -108,6 +171,9 @@ public final class ModelTest {
             int seed = random.nextInt(1000000);
             int range = ranges[random.nextInt(ranges.length)];
             same("scatter " + seed + " " + range, () -> survey.scatter(seed, range), () -> model.scatter(seed, range));
+        }
+        if (random.nextBoolean()) {
+            newGrounds(model.rows() * model.columns());
         }
     }
 
