@@ -1252,9 +1252,11 @@ public final class ClaySurvey {
                 for (int cell = 0; cell < land.cells; cell++) {
                     moved += soakIn(cell, soils.under(cell));
                 }
-                if (moved > 0) {
-                    lively++;
+                if (moved == 0) {
+                    // each step from here on would find the same and move as little
+                    return lively;
                 }
+                lively++;
             }
             return lively;
         }
@@ -1296,18 +1298,20 @@ public final class ClaySurvey {
             if (standing[cell] <= 0) {
                 return 0;
             }
+            int own = surfaceOf(land, cell);
+            int least = own;
             int lowest = NONE;
             for (int side = 0; side < SIDES; side++) {
                 int other = land.beside[cell * SIDES + side];
-                if (other != NONE && (lowest == NONE || surfaceOf(land, other) < surfaceOf(land, lowest))) {
+                if (other != NONE && surfaceOf(land, other) < least) {
+                    least = surfaceOf(land, other);
                     lowest = other;
                 }
             }
-            if (lowest == NONE || surfaceOf(land, lowest) >= surfaceOf(land, cell)) {
+            if (lowest == NONE) {
                 return 0;
             }
-            int difference = surfaceOf(land, cell) - surfaceOf(land, lowest);
-            int units = Math.min((difference + 1) / 2, standing[cell]);
+            int units = Math.min((own - least + 1) / 2, standing[cell]);
             standing[cell] -= units;
             standing[lowest] += units;
             return units;
