@@ -4,9 +4,10 @@ import java.util.Random;
 
 /** Long drawn runs of all calls, right and wrong ones, each answer compared with the model's. */
 public final class ModelTest {
-    private static final int RUNS = 400;
-    private static final int CALLS = 512;
+    private static final int RUNS = 800;
     private static final int MOST_TOLD = 20;
+    /** No drawn row of calls takes more than this many. */
+    private static final int ROOM = 160;
 
     private interface Call {
         Object answer();
@@ -18,6 +19,7 @@ public final class ModelTest {
     private final Model model = new Model();
     private final List<String> calls = new ArrayList<>();
     private final int run;
+    private int used;
 
     private ModelTest(int run) {
         this.run = run;
@@ -34,19 +36,30 @@ public final class ModelTest {
     }
 
     private void go() {
-        for (int call = 0; call < CALLS && wrong < MOST_TOLD; call++) {
-            if (call % 40 == 0 && random.nextInt(3) > 0) {
+        int sinceNewLand = 100;
+        while (used + ROOM <= Script.MOST_CALLS && wrong < MOST_TOLD) {
+            if (sinceNewLand >= 40) {
                 newLand();
+                sinceNewLand = random.nextInt(40);
             }
-            one(random.nextInt(60));
+            if (used + ROOM <= Script.MOST_CALLS) {
+                one(random.nextInt(60));
+            }
+            sinceNewLand++;
         }
         sweep();
     }
 
-    /** All that can be asked of each cell, so that nothing stays changed unseen. */
+    /** All that can be asked of each cell, as far as calls are left, so that nothing stays changed unseen. */
     private void sweep() {
-        for (int c = 0; c < model.rows() * model.columns(); c++) {
-            int cell = c;
+        for (int what = 0; what < 6; what++) {
+            int at = what;
+            same("total " + at, () -> survey.total(at), () -> model.total(at));
+        }
+        int cells = model.rows() * model.columns();
+        int first = random.nextInt(cells);
+        for (int c = 0; c < cells && used + 8 <= Script.MOST_CALLS; c++) {
+            int cell = (first + c) % cells;
             same("height " + cell, () -> survey.height(cell), () -> model.height(cell));
             same("level " + cell, () -> survey.level(cell), () -> model.level(cell));
             same("drain " + cell, () -> survey.drain(cell), () -> model.drain(cell));
@@ -55,10 +68,6 @@ public final class ModelTest {
             same("groundOf " + cell, () -> survey.groundOf(cell), () -> model.groundOf(cell));
             same("water " + cell, () -> survey.water(cell, false), () -> model.water(cell, false));
             same("water in " + cell, () -> survey.water(cell, true), () -> model.water(cell, true));
-        }
-        for (int what = 0; what < 6; what++) {
-            int at = what;
-            same("total " + at, () -> survey.total(at), () -> model.total(at));
         }
     }
 
@@ -87,6 +96,7 @@ public final class ModelTest {
             int place = (1 + random.nextInt(r - 2)) * c + 1 + random.nextInt(c - 2);
             same("wallCost " + level + " " + place, () -> survey.wallCost(level, place),
                     () -> model.wallCost(level, place));
+            used += r * c - 1;
             same("dams " + level + " " + place, () -> dams(level, place), () -> model.dams(level, place));
             same("errors " + level, () -> survey.errors(level), () -> model.errors(level));
         }
@@ -114,6 +124,10 @@ public final class ModelTest {
 
     private void same(String name, Call ours, Call theirs) {
         calls.add(name);
+        used++;
+        if (used > Script.MOST_CALLS) {
+            throw new AssertionError("run " + run + " of more than " + Script.MOST_CALLS + " calls");
+        }
         Object got = outcome(ours);
         Object want = outcome(theirs);
         if (!got.equals(want)) {
