@@ -382,6 +382,8 @@ public final class EdgeTest {
                 + "water(0,false)=3 undo()=0 height(0)=0 water(0,false)=3");
         edge(11, "not refused with water in the ground, if the size stays", SOAKED + "set(4,9)=0 undo()=1 height(4)=0 "
                 + "water(4,true)=1 groundOf(4)=0");
+        edge(11, "what is refused can be undone when it is dry", "set(0,4) begin(2,2) set(3,9) pour(3,1) undo()=2 undo()!S "
+                + "undo()!S step(1)=1 undo()=1 rows()=1 height(0)=4 undo()=0 height(0)=0");
         edge(11, "NONE with water", "pour(0,1) undo()=-1 water(0,false)=1");
         edge(11, "the ninth change with another size", "begin(1,9) begin(1,8) begin(1,7) begin(1,6) begin(1,5) "
                 + "begin(1,4) begin(1,3) begin(1,2) begin(1,1) undo()=7 columns()=2 6*undo() columns()=8 undo()=0 "
@@ -643,6 +645,10 @@ public final class EdgeTest {
                 + "ground(99,-1)=0 layer(0,1,0,0)=2");
         edge(31, "the ground of no cell any more", "2*profile() ground(0,0)=-1 ground(0,1)=0 layer(0,1,0,0)=2 "
                 + "layer(1,1,0,0)!S begin(1,1) layer(1,1,0,0)=2");
+        edge(31, "the ground of one cell still", "profile() begin(1,2) ground(0,0) ground(1,0) ground(0,-1)=0 "
+                + "layer(0,1,0,0)!S ground(1,-1)=0 layer(0,1,0,0)=2");
+        edge(31, "no ground any more after undo of a size", "profile() begin(1,2) ground(1,0) layer(0,1,0,0)!S undo()=0 "
+                + "layer(0,1,0,0)=2");
         edge(31, "no such profile is told first", "layer(0,0,0,0)!I layer(-1,1,101,0)!I profile() layer(1,51,0,0)!I "
                 + "4*layer(0,1,0,0) layer(1,1,0,0)!I");
         edge(31, "out of range is told before the sixth", "profile() 4*layer(0,1,0,0) layer(0,0,0,0)!A "
