@@ -1,146 +1,169 @@
 import java.io.IOException;
 import java.nio.file.Files;
 import java.nio.file.Path;
-import java.util.HashMap;
-import java.util.HashSet;
 import java.util.List;
-import java.util.Map;
-import java.util.Set;
-import java.util.regex.Matcher;
-import java.util.regex.Pattern;
 
-/** Those rules of LANGUAGE.md that can be seen in the source's words, over src/main/java/ClaySurvey.java. */
+/** The class against the rules of LANGUAGE.md, and for each rule a class that breaks it, so that it is seen to be held. */
 public final class LanguageTest {
-    private static final List<String> NEVER = List.of("->", "::", "synchronized", "\\bassert\\b", "\\bfinally\\b",
-            "\\bcatch\\b", "Exact\\b", "getMessage", "\\bprotected\\b", "\\bpackage\\b", "\\bThread\\b", "\\bRandom\\b",
-            "\\bvar\\b", "\\bInteger\\b", "\\bLong\\b", "\\bObject\\b", "\\bnative\\b", "\\bvolatile\\b",
-            "static\\s*\\{", "Arrays\\.(?!fill\\b|copyOf\\b|copyOfRange\\b)", "Math\\.(?!min\\b|max\\b)",
-            "System\\.(?!arraycopy\\b)", "\\bdo\\b", "while\\s*\\(true\\)", "for\\s*\\(\\s*;\\s*;");
-    private static final Set<String> IMPORTS = Set.of("java.util.ArrayList", "java.util.Arrays",
-            "java.util.NoSuchElementException");
-    private static final Pattern METHOD = Pattern.compile(
-            "^ {4,8}(?:(?:public|private|static|final) )*[\\w<>\\[\\]]+ ?(\\w*)\\(([^)]*)\\)[^;{=]*\\{$",
-            Pattern.MULTILINE);
-
     private static int wrong;
 
     public static void main(String[] args) throws IOException {
-        String source = Files.readString(Path.of("src/main/java/ClaySurvey.java"));
-        String code = bare(source);
-        for (String word : NEVER) {
-            Matcher found = Pattern.compile(word).matcher(code);
-            while (found.find()) {
-                tell("line " + lineOf(code, found.start()) + ": " + found.group());
-            }
+        String ours = Files.readString(Path.of("src/main/java/ClaySurvey.java"));
+        for (String fault : Language.faults("ClaySurvey", ours, "Profile")) {
+            wrong++;
+            System.out.println("rule " + fault);
         }
-        imports(code);
-        classes(code);
-        methods(code);
-        madeInMethods(code);
-        for (int at = 0; at < source.length(); at++) {
-            if (source.charAt(at) > 126) {
-                tell("line " + lineOf(source, at) + ": a sign above 126");
-            }
-        }
+        within();
+        members();
+        types();
+        library();
+        refusals();
+        loopsAndSizes();
         System.out.println(wrong == 0 ? "the language is kept" : wrong + " places break the language");
         System.exit(wrong == 0 ? 0 : 1);
     }
 
-    private static void tell(String what) {
-        wrong++;
-        System.out.println(what);
+    /** A class with these members breaks this rule alone; none with the rule -1. */
+    private static void breaks(int rule, String members) throws IOException {
+        source(rule, "import java.util.*; public final class A { " + members + " }");
     }
 
-    private static int lineOf(String code, int at) {
-        return (int) code.substring(0, at).chars().filter(c -> c == '\n').count() + 1;
-    }
-
-    /** The code without comments and without what stands in texts and signs. */
-    private static String bare(String source) {
-        Matcher found = Pattern.compile("/\\*.*?\\*/|//[^\n]*|\"[^\"\n]*\"|'[^'\n]*'", Pattern.DOTALL).matcher(source);
-        return found.replaceAll(m -> m.group().replaceAll("[^\n\"']", "").replace("'", "''"));
-    }
-
-    private static void imports(String code) {
-        Matcher found = Pattern.compile("^import (\\S+);", Pattern.MULTILINE).matcher(code);
-        while (found.find()) {
-            if (!IMPORTS.contains(found.group(1))) {
-                tell("import of " + found.group(1));
-            }
+    private static void source(int rule, String source) throws IOException {
+        List<String> faults = Language.faults("A", source, "B");
+        boolean isSeen = rule < 0 ? faults.isEmpty() : !faults.isEmpty();
+        for (String fault : faults) {
+            isSeen &= fault.startsWith(rule + ": ");
+        }
+        if (!isSeen) {
+            wrong++;
+            System.out.println("due is rule " + rule + ", told is " + faults + ", of " + source);
         }
     }
 
-    /** At most twelve classes, twenty fields in each beside its constants. */
-    private static void classes(String code) {
-        Map<String, Integer> fields = new HashMap<>();
-        String owner = "";
-        int count = 0;
-        for (String line : code.split("\n")) {
-            Matcher opened = Pattern.compile("^( {4})?(?:public |private )?(?:static )?final class (\\w+)").matcher(line);
-            if (opened.find()) {
-                owner = opened.group(2);
-                count++;
-            } else if (line.matches((count == 1 ? " {4}" : " {8}")
-                    + "(private )?(final )?[\\w<>\\[\\]]+ \\w+( = .*)?;")) {
-                fields.merge(owner, 1, Integer::sum);
-            }
-        }
-        if (count > 12) {
-            tell(count + " classes");
-        }
-        fields.forEach((name, many) -> {
-            if (many > 20) {
-                tell(name + " has " + many + " fields");
-            }
-        });
+    private static void within() throws IOException {
+        breaks(-1, "private final int[] row = new int[9]; public int a() { return Math.max(row[0], 1) / 2; }");
+        breaks(-1, "private static final int B = 3; private static final int[] C = {1, 2}; "
+                + "private final int[][] rows = new int[B * 2][4];");
+        breaks(-1, "private static final class B { int c; B() { c = 1; } } private final ArrayList<B> list = "
+                + "new ArrayList<B>(); public int a() { list.add(new B()); return list.size(); }");
+        breaks(-1, "public int a(int b) throws IllegalArgumentException { need(b); return b; } private static void "
+                + "need(int b) { if (b < 0) { throw new IllegalArgumentException(\"b\"); } }");
+        breaks(-1, "public double a(int b) { return b < 1 ? 0.0 : 1.0 / (double) b; }");
+        breaks(-1, "public int a() { int b = 9; while (b > 0 && b != 4) { b--; } return b; }");
     }
 
-    /** Sixty lines and seven parameters at most, and no name of the face on another method. */
-    private static void methods(String code) {
-        Set<String> face = new HashSet<>();
-        for (java.lang.reflect.Method method : ClaySurvey.class.getMethods()) {
-            if (method.getDeclaringClass() == ClaySurvey.class) {
-                face.add(method.getName());
-            }
-        }
-        Matcher found = METHOD.matcher(code);
-        int count = 0;
-        while (found.find()) {
-            count++;
-            int lines = lineOf(code, end(code, found.end() - 1)) - lineOf(code, found.start()) + 1;
-            if (lines > 60) {
-                tell(found.group(1) + " has " + lines + " lines");
-            }
-            if (found.group(2).split(",").length > 7) {
-                tell(found.group(1) + " takes more than seven parameters");
-            }
-            if (!found.group().contains("public ") && face.contains(found.group(1))) {
-                tell(found.group(1) + " bears a name of the face");
-            }
-        }
-        if (count < 80) {
-            tell("only " + count + " methods were seen");
-        }
+    private static void members() throws IOException {
+        source(1, "package a; public final class A { }");
+        source(1, "public class A { }");
+        source(1, "public final class A { } final class B { }");
+        breaks(1, "int b;");
+        breaks(1, "int a() { return 1; }");
+        breaks(1, "protected final int b = 1;");
+        breaks(1, "public static final class B { }");
+        breaks(1, "private final class B { }");
+        breaks(1, "public int a() { return 1; } private int a(int b) { return b; }");
+        breaks(1, "public int a() { return 1; } private static final class B { int a() { return 2; } }");
+        breaks(2, "public int a() { class B { int c; } return new B().c; }");
+        source(4, "public final class A { /* \u00e9 */ }");
+        breaks(6, "private static final class B { public String toString() { return \"b\"; } }");
     }
 
-    private static int end(String code, int open) {
-        int depth = 0;
-        for (int at = open; at < code.length(); at++) {
-            depth += code.charAt(at) == '{' ? 1 : code.charAt(at) == '}' ? -1 : 0;
-            if (depth == 0) {
-                return at;
-            }
-        }
-        return code.length() - 1;
+    private static void types() throws IOException {
+        breaks(3, "private Object b;");
+        breaks(3, "private boolean[][] b;");
+        breaks(3, "private String[] b;");
+        breaks(3, "private int[][][] b;");
+        breaks(3, "private ArrayList<String> b;");
+        breaks(3, "private HashMap<Integer, Integer> b;");
+        breaks(3, "public double a(double b) { return b % 2.0; }");
+        breaks(5, "private static int b = 1;");
+        breaks(5, "private static final int[] B = new int[9];");
+        breaks(5, "private static final StringBuilder B = new StringBuilder();");
+        breaks(5, "private static final int B; static { B = 1; }");
+        breaks(5, "private static final int[] B = {1}; public int a() { B[0] = 2; return 1; }");
+        breaks(5, "private static final int[] B = {1}; public int a() { B[0]++; return 1; }");
+        breaks(5, "private static final int[] B = {1}; public int a() { B[0] += 2; return 1; }");
     }
 
-    /** Rows are made in fields: the one object that a call makes is a profile, of which there are six at most. */
-    private static void madeInMethods(String code) {
-        for (String line : code.split("\n")) {
-            if (line.contains("new ") && !line.contains("throw new ") && !line.contains("final ")
-                    && !line.contains("Profile made = new Profile()")) {
-                tell("made in a method: " + line.trim());
-            }
+    private static void library() throws IOException {
+        breaks(4, "public int a() { return Math.addExact(1, 2); }");
+        breaks(4, "public double a() { return Math.max(1.0, 2.0); }");
+        breaks(4, "public int a(int b) { System.exit(b); return b; }");
+        breaks(4, "private final boolean[] b = new boolean[4]; public int a() { Arrays.fill(b, true); return 1; }");
+        breaks(4, "private final int[] b = new int[4]; public int a() { Arrays.sort(b); return 1; }");
+        breaks(4, "private final boolean b = new Random() == null;");
+        breaks(2, "private static interface B { int c(); } private static int d() { return 1; } "
+                + "private static B b() { return A::d; }");
+        breaks(2, "private static interface B { int c(); } private static B b() { return () -> 1; }");
+    }
+
+    private static void refusals() throws IOException {
+        breaks(6, "public int a() throws IllegalStateException { throw new IllegalStateException(b()); } "
+                + "private static String b() { return \"b\"; }");
+        breaks(6, "public int a() { throw new IllegalStateException(); }");
+        breaks(6, "public int a() throws IllegalStateException { return 1; }");
+        breaks(6, "public int a() throws IllegalStateException { throw new NullPointerException(); }");
+        breaks(6, "public A() { throw new IllegalStateException(); }");
+        breaks(6, "public int a() { try { return b(); } catch (IllegalStateException e) { return 2; } } "
+                + "private static int b() { return 1; }");
+        breaks(6, "public int a() { synchronized (this) { return 1; } }");
+        breaks(6, "public synchronized int a() { return 1; }");
+        breaks(6, "public int a(int b) { assert b > 0; return 1; }");
+        breaks(6, "public boolean a(int b) { return b() == b(); } private static String b() { return \"b\"; }");
+        breaks(7, "public int a(int b) { return 1 / b; }");
+        breaks(7, "public int a(int b) { return 1 % (b + 1); }");
+        breaks(7, "public int a(int b) { int c = 1; c /= b; return c; }");
+        breaks(7, "public double a(int b) { return 1.0 / (double) b; }");
+        breaks(7, "private final int b = c(); private final int[] d = new int[b]; private static int c() { return 1; }");
+        breaks(7, "private static abstract class B { } private static final class C extends B { int d; } "
+                + "private static int e(B b) { return ((C) b).d; }");
+    }
+
+    private static void loopsAndSizes() throws IOException {
+        breaks(8, "private static int b(int c) { return c < 1 ? 0 : b(c - 1); }");
+        breaks(8, "private static int b(int c) { return d(c); } private static int d(int c) { return c < 1 ? 0 : b(c); }");
+        breaks(9, "public int a() { for (;;) { } }");
+        breaks(9, "public int a() { while (true) { } }");
+        breaks(9, "public int a() { while (b()) { } return 1; } private static boolean b() { return true; }");
+        breaks(9, "public int a(int b) { for (int c = 0; c != b; c++) { b--; } return b; }");
+        breaks(9, "public int a(int b) { do { b--; } while (b != 0); return b; }");
+        breaks(10, "public int a(int b) { String c = \"c\" + b; return c.length(); }");
+        breaks(10, "public int a(int b) { String c = \"c\"; c += b; return c.length(); }");
+        breaks(11, "private static int b(int c, int d, int e, int f, int g, int h, int i, int j) { return c; }");
+        breaks(11, "private static int b() { return 1;" + "\n".repeat(60) + "}");
+        breaks(11, fields(21));
+        breaks(-1, fields(20));
+        breaks(11, classes(12));
+        breaks(-1, classes(11));
+        breaks(11, steps(9));
+        breaks(-1, steps(8));
+        breaks(12, "private static final class B { } public int a() { for (int b = 0; b < 3; b++) { new B(); } return 1; }");
+        breaks(12, "private static final class C { } public int a() { new C(); return 1; }");
+        breaks(12, "public int a() { ArrayList<A> b = new ArrayList<A>(); return b.size(); }");
+        breaks(12, "public int a() { int[] b = new int[3]; return b[0]; }");
+    }
+
+    private static String fields(int count) {
+        StringBuilder all = new StringBuilder();
+        for (int i = 0; i < count; i++) {
+            all.append("private int b").append(i).append("; ");
         }
+        return all.toString();
+    }
+
+    private static String classes(int count) {
+        StringBuilder all = new StringBuilder();
+        for (int i = 0; i < count; i++) {
+            all.append("private static final class B").append(i).append(" { } ");
+        }
+        return all.toString();
+    }
+
+    private static String steps(int count) {
+        StringBuilder all = new StringBuilder("private static int b1() { return 1; } ");
+        for (int i = 2; i <= count; i++) {
+            all.append("private static int b").append(i).append("() { return b").append(i - 1).append("(); } ");
+        }
+        return all.toString();
     }
 }

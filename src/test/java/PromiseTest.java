@@ -1,19 +1,13 @@
-import java.lang.reflect.Constructor;
-import java.lang.reflect.Field;
-import java.lang.reflect.Method;
-import java.lang.reflect.Modifier;
-import java.util.TreeSet;
-
 /** Each promise by its number, with ordinary inputs; what is at the boundaries, and what is refused, is in EdgeTest. */
 public final class PromiseTest {
-    private static final int NONE = -1;
     /** A hollow of four cells, of which one is beside the sill, and its outlet in the last row. */
     private static final String HOLLOW = "land(jjjj/jbbj/jbcj/jejj)=16 ";
 
     private static int wrong;
 
     public static void main(String[] args) {
-        theFace();
+        promise(1, "a new object", "rows()=1 columns()=1 height(0)=0 totals()=0,0,0,0,0,0 holds(0)!I pageAt(0)!I "
+                + "clearText()=0");
         theText();
         land();
         changes();
@@ -39,37 +33,6 @@ public final class PromiseTest {
             wrong++;
             System.out.println("promise " + number + ": " + what + ": " + fault + ", in " + words);
         }
-    }
-
-    private static void due(String what, Object got, Object want) {
-        if (!got.equals(want)) {
-            wrong++;
-            System.out.println("the face: " + what + " is " + got + ", due is " + want);
-        }
-    }
-
-    private static void theFace() {
-        TreeSet<String> open = new TreeSet<>();
-        TreeSet<String> hidden = new TreeSet<>();
-        for (Method method : ClaySurvey.class.getDeclaredMethods()) {
-            (Modifier.isPublic(method.getModifiers()) ? open : hidden).add(method.getName());
-            due(method.getName() + " is public or private", Modifier.isPublic(method.getModifiers())
-                    || Modifier.isPrivate(method.getModifiers()), true);
-        }
-        due("the names of the methods", String.join(" ", open), "begin clearText columns digest drain errorKind "
-                + "errorPlace errors gathers ground groundOf height holds isDam isWet lakeAt lakeOf lakeShare lakes "
-                + "layer layerAt length level meanHeight mixed nameOf outlet pageAt pour profile rain rank read rows "
-                + "scatter set sill slope step sun total type undo wallCost water wet write");
-        hidden.retainAll(open);
-        due("private methods with public names", hidden.toString(), "[]");
-        for (Field field : ClaySurvey.class.getDeclaredFields()) {
-            due(field.getName() + " is private", Modifier.isPrivate(field.getModifiers()),
-                    !field.getName().equals("NONE"));
-        }
-        Constructor<?>[] makers = ClaySurvey.class.getDeclaredConstructors();
-        due("constructors", makers.length, 1);
-        due("NONE", ClaySurvey.NONE, NONE);
-        due("the class is final", Modifier.isFinal(ClaySurvey.class.getModifiers()), true);
     }
 
     private static void theText() {
@@ -220,7 +183,7 @@ public final class PromiseTest {
         long sum = 7;
         int[] levels = {100, 107, 114, 103, 110, 117, 106, 113, 120};
         for (int cell = 0; cell < 9; cell++) {
-            sum = (sum * 31 + levels[cell]) * 31 + (cell == 4 ? 3 : NONE);
+            sum = (sum * 31 + levels[cell]) * 31 + (cell == 4 ? 3 : ClaySurvey.NONE);
         }
         promise(45, "digest", "begin(3,3) slope(100,3,7) digest()=" + sum);
     }
